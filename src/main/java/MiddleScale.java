@@ -488,7 +488,9 @@ public final class MiddleScale {
         RowSet rows = rowsLeft();
         int slot = KEPT_WHERE + now.kinds[scale] * MOST_THINGS + thing;
         if (answers[slot] == NOT_ASKED) {
-            walk.start(allRows(), layingsOf(scale), rows, levels, thing);
+            walk.start();
+            levels[0].copy(rows);
+            walk.go(allRows(), layingsOf(scale), levels, 0, thing);
             answers[slot] = walk.most;
         }
         return answers[slot];
@@ -696,7 +698,9 @@ public final class MiddleScale {
     private int walked(int question, int kind) {
         RowSet rows = rowsLeft();
         if (answers[KEPT_MOST + kind] == NOT_ASKED) {
-            walk.start(allRows(), allRows().layings(kind), rows, levels, NONE);
+            walk.start();
+            levels[0].copy(rows);
+            walk.go(allRows(), allRows().layings(kind), levels, 0, NONE);
             answers[KEPT_MOST + kind] = walk.most;
             answers[KEPT_TOTAL + kind] = walk.total;
             answers[KEPT_SURE + kind] = walk.sure ? 1 : 0;
@@ -1389,6 +1393,19 @@ public final class MiddleScale {
         }
 
         void fill(AllRows all) {
+            fillSets();
+            int k = 0;
+            for (int s = 0; s < sets.length; s++) {
+                for (int t = 0; t < things && k < risings.length; t++) {
+                    if (holds(sets[s], t)) {
+                        fillRising(all, sets[s], t, risings[k]);
+                        k++;
+                    }
+                }
+            }
+        }
+
+        private void fillSets() {
             Arrays.fill(numbers, NONE);
             int number = 0;
             // Thing 0 as the highest bit: then falling codes are sets in order.
@@ -1397,7 +1414,6 @@ public final class MiddleScale {
                     int set = turned(code);
                     sets[number] = set;
                     numbers[set] = number;
-                    fillRisings(all, set);
                     number++;
                 }
             }
@@ -1409,14 +1425,6 @@ public final class MiddleScale {
                 set |= holds(code, t) ? 1 << things - 1 - t : 0;
             }
             return set;
-        }
-
-        private void fillRisings(AllRows all, int set) {
-            for (int t = 0; t < things; t++) {
-                if (holds(set, t)) {
-                    fillRising(all, set, t, rising(set, t));
-                }
-            }
         }
 
         private void fillRising(AllRows all, int set, int thing, long[] bits) {
@@ -1470,9 +1478,11 @@ public final class MiddleScale {
         /** The number of the set that is next, with its worst and spread; NONE without sets. */
         int best(RowSet some) {
             int found = NONE;
+            int even = evenSpread(some.size);
             int leastWorst = 0;
             int leastSpread = 0;
-            for (int s = 0; s < sets.length; s++) {
+            // No set behind one that parts evenly is better.
+            for (int s = 0; s < sets.length && (found == NONE || leastSpread > even); s++) {
                 measure(some, s);
                 boolean better = worst < leastWorst || worst == leastWorst && spread < leastSpread;
                 if (found == NONE || better) {
@@ -1484,6 +1494,13 @@ public final class MiddleScale {
             worst = leastWorst;
             spread = leastSpread;
             return found;
+        }
+
+        /** The spread of rows that are parted as evenly as can be. */
+        private int evenSpread(int size) {
+            int least = pans > 0 ? size / pans : size;
+            int more = size - least * pans;
+            return more * (least + 1) * (least + 1) + (pans - more) * least * least;
         }
 
         /** The number of the set that is next and is laid; NONE, if it is time to stop. */
@@ -1758,16 +1775,14 @@ public final class MiddleScale {
         int total = 0;
         boolean sure = true;
 
-        /** With a thing one stops, too, as soon as it is placed. */
-        void start(AllRows all, Layings sets, RowSet rows, RowSet[] levels, int thing) {
+        void start() {
             most = 0;
             total = 0;
             sure = true;
-            levels[0].copy(rows);
-            go(all, sets, levels, 0, thing);
         }
 
-        private void go(AllRows all, Layings sets, RowSet[] levels, int level, int thing) {
+        /** Goes on from a level's rows; with a thing one stops, too, as soon as it is placed. */
+        void go(AllRows all, Layings sets, RowSet[] levels, int level, int thing) {
             RowSet here = levels[level];
             boolean placed = thing != NONE && all.isPlaced(here, thing);
             int number = placed ? NONE : sets.parting(all, here);
