@@ -43,11 +43,10 @@ public final class MiddleScale {
     /** No answer that is kept is below SPENT. */
     private static final int NOT_ASKED = -3;
 
-    private final Tape tape = new Tape();
+    private final Reader reader = new Reader();
+    private final Tape tape = reader.tape;
     private final Store now = new Store();
-    private final Store kept = new Store();
-    private final Store trial = new Store();
-    private final Reader reader = new Reader(tape, trial);
+    private final Store picture = new Store();
     private final AllRows[] worlds = new AllRows[MOST_THINGS - LEAST_THINGS + 1];
     private final Fitting fitting = new Fitting();
     private final RowSet left = new RowSet();
@@ -91,6 +90,7 @@ public final class MiddleScale {
 
     /** Promise 4. */
     public int shed() throws IllegalArgumentException, UnsupportedOperationException {
+        Store trial = reader.store;
         trial.takeOver(now);
         wrongByte = reader.read(tape.useUp());
         if (wrongByte != NONE) {
@@ -554,7 +554,7 @@ public final class MiddleScale {
 
     /** Promise 48. */
     public void image() {
-        kept.takeOver(now);
+        picture.takeOver(now);
         imaged = true;
     }
 
@@ -563,7 +563,7 @@ public final class MiddleScale {
         if (!imaged) {
             return false;
         }
-        now.takeOver(kept);
+        now.takeOver(picture);
         fresh = false;
         return true;
     }
@@ -968,19 +968,14 @@ public final class MiddleScale {
         }
     }
 
-    /** Reads a text into a store, which is of no use if the text is wrong. */
+    /** Reads the tape's text into a store of its own, for of a wrong text nothing may stay. */
     private static final class Reader {
-        private final Tape tape;
-        private final Store store;
+        final Tape tape = new Tape();
+        final Store store = new Store();
         private int length = 0;
         private int at = 0;
         private int begin = 0;
         private int wrong = NONE;
-
-        Reader(Tape tape, Store store) {
-            this.tape = tape;
-            this.store = store;
-        }
 
         /** The first wrong byte, or NONE. */
         int read(int size) {

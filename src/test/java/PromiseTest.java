@@ -64,6 +64,15 @@ public final class PromiseTest {
         return x;
     }
 
+    /** With notes: a scale, a set, what rose, and so on. */
+    private static MiddleScale noted(int things, int... notes) {
+        MiddleScale x = of(things);
+        for (int i = 0; i + 2 < notes.length; i += 3) {
+            x.note(notes[i], notes[i + 1], notes[i + 2]);
+        }
+        return x;
+    }
+
     /** Puts a text on an empty tape. */
     private static void tell(MiddleScale x, String text) {
         x.end(0);
@@ -203,6 +212,12 @@ public final class PromiseTest {
     private void faults() {
         wrongAt("thing 4", 0);
         wrongAt(" thingsx 4", 1);
+        wrongAt("thingsz 4", 0);
+        wrongAt("thingsa 4", 0);
+        wrongAt("things`4", 6);
+        wrongAt("things{4", 6);
+        wrongAt("things :", 7);
+        wrongAt("things /", 7);
         wrongAt("things", 6);
         wrongAt("things  ", 8);
         wrongAt("things 2", 7);
@@ -685,6 +700,10 @@ public final class PromiseTest {
         is("bound of 5040 by 3", z.bound(0), 8);
         is("bound of 5040 by 4", z.bound(1), 6);
         is("bound of 5040 by 2", z.bound(2), 12);
+        is("4000 steps and learnt", noted(6, 0, 11, 0, 1, 45, 5, 2, 6, 1).fewest(0), 4);
+        is("4001 steps, though learnt by the last", noted(6, 0, 11, 3, 1, 54, 1, 0, 13, 3).fewest(0), -2);
+        is("4000 steps and not learnt", noted(6, 2, 33, 5, 0, 14, 1, 1, 54, 1, 2, 48, 5).fewest(1), -1);
+        is("4001 steps", noted(6, 2, 5, 2, 1, 30, 4, 0, 41, 3, 2, 12, 2, 0, 50, 5).fewest(1), -2);
         throwsIt("fewest(3)", OUTSIDE, () -> z.fewest(3));
         throwsIt("bound(-1)", OUTSIDE, () -> z.bound(-1));
     }
