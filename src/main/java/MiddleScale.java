@@ -1777,7 +1777,7 @@ public final class MiddleScale {
         }
 
         /** Goes on from a level's rows; with a thing one stops, too, as soon as it is placed. */
-        void go(AllRows all, Layings sets, RowSet[] levels, int level, int thing) {
+        private void go(AllRows all, Layings sets, RowSet[] levels, int level, int thing) {
             RowSet here = levels[level];
             boolean placed = thing != NONE && all.isPlaced(here, thing);
             int number = placed ? NONE : sets.parting(all, here);

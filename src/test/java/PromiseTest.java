@@ -45,6 +45,7 @@ public final class PromiseTest {
         t.played();
         t.sures();
         t.where();
+        t.askedAgain();
         t.tree();
         t.needless();
         t.stands();
@@ -172,6 +173,14 @@ public final class PromiseTest {
         is("shed of 'weight 0 3'", x.shed(), 1);
         is("the weight, highest byte first", x.weight(0, 0), 3);
         is("end(0) of none", x.end(0), true);
+        tell(x, "weight 0 55scalexweight 0");
+        x.end(10);
+        is("what was cut off does not count: digits", x.shed(), 2);
+        is("the weight of one digit", x.weight(0, 0), 5);
+        tell(x, "scalexyz");
+        x.end(5);
+        throwsIt("what was cut off does not count: letters", ILLEGAL, x::shed);
+        is("more must come", x.fault(), 5);
         x.feed(0x80ffff30, -1, 0, 0, 0);
         x.end(4);
         throwsIt("bytes above 127", ILLEGAL, x::shed);
@@ -212,6 +221,8 @@ public final class PromiseTest {
     private void faults() {
         wrongAt("thing 4", 0);
         wrongAt(" thingsx 4", 1);
+        wrongAt("xhings 4", 0);
+        wrongAt("weight 0 1; xote 2 0 1 rose 1", 12);
         wrongAt("thingsz 4", 0);
         wrongAt("thingsa 4", 0);
         wrongAt("things`4", 6);
@@ -877,6 +888,9 @@ public final class PromiseTest {
         throwsIt("played(0, -1, 0, 0)", ILLEGAL, () -> x.played(0, -1, 0, 0));
         throwsIt("played(0, 99, 0, 3)", ANOTHER, () -> x.played(0, 99, 0, 3));
         throwsIt("played(0, 0, 0, -1)", ANOTHER, () -> x.played(0, 0, 0, -1));
+        MiddleScale y = of(7);
+        is("the first row of many is lost", y.played(0, 1, 0, 2), 0);
+        is("the first row of many is found", y.played(0, 0, 0, 2), 1);
         x.note(0, 7, 0);
         is("known: no laying", x.played(2, 0, 7, 0), 0);
         is("the true row was never left", x.played(2, 0, 7, 2), 0);
@@ -897,6 +911,10 @@ public final class PromiseTest {
         x.note(2, 6, 2);
         is("by pairs", x.sures(false), 1);
         is("notes of another kind do not count", x.sures(true), 1);
+        x.note(0, 7, 1);
+        is("a note on it", x.sures(true), 0);
+        x.drop(2);
+        is("the note put away", x.sures(true), 1);
         x.note(2, 5, 0);
         is("no rows: nothing", x.sures(false), 0);
     }
@@ -928,6 +946,28 @@ public final class PromiseTest {
         is("2 stands in four", z.where(2, 0), 1);
         is("two more by pairs", z.where(2, 2), 2);
         is("one for 0 is none, too, by pairs", z.where(0, 2), 0);
+    }
+
+    /** What is asked of the same rows again, behind all else, is answered alike. */
+    private void askedAgain() {
+        int[] notes = {0, 7, 1, 2, 9, 3};
+        MiddleScale x = noted(5, notes);
+        for (int turn = 0; turn < 2; turn++) {
+            for (int s = 0; s < 3; s++) {
+                is("byNext again", x.byNext(s), noted(5, notes).byNext(s));
+                is("mean again", x.mean(s), noted(5, notes).mean(s));
+                is("fewest again", x.fewest(s), noted(5, notes).fewest(s));
+                for (int t = 0; t < 5; t++) {
+                    is("where again", x.where(t, s), noted(5, notes).where(t, s));
+                }
+            }
+            is("cheapest again", x.cheapest(false), noted(5, notes).cheapest(false));
+            is("its coin again", x.cheapest(true), noted(5, notes).cheapest(true));
+        }
+        x.drop(0);
+        is("byNext of other rows", x.byNext(2), noted(5, 2, 9, 3).byNext(2));
+        is("where of other rows", x.where(4, 2), noted(5, 2, 9, 3).where(4, 2));
+        is("fewest of other rows", x.fewest(0), noted(5, 2, 9, 3).fewest(0));
     }
 
     private void tree() {
