@@ -7,12 +7,22 @@ final class Due {
 
     private int wrong = 0;
     private int looked = 0;
+    private String about = "";
+
+    /** What is printed ahead of the calls from now on. */
+    void about(String told) {
+        about = told;
+    }
+
+    int looked() {
+        return looked;
+    }
 
     void is(String call, Object got, Object want) {
         looked++;
         if (!got.equals(want)) {
             wrong++;
-            System.out.println(call + " answered " + got + ", due is " + want);
+            System.out.println(about + call + " answered " + got + ", due is " + want);
         }
     }
 
@@ -27,7 +37,7 @@ final class Due {
         }
         if (got != null) {
             wrong++;
-            System.out.println(call + " answered " + got + ", due is throws." + want.getSimpleName());
+            System.out.println(about + call + " answered " + got + ", due is throws." + want.getSimpleName());
         }
     }
 

@@ -1,16 +1,7 @@
-import java.nio.ByteBuffer;
-import java.nio.IntBuffer;
-import java.nio.charset.StandardCharsets;
 import java.util.Arrays;
-import java.util.NoSuchElementException;
 
 /** Each promise by hand: ordinary inputs, the edges that the document names, wrong inputs. */
-public final class PromiseTest {
-    private static final Class<IllegalArgumentException> ILLEGAL = IllegalArgumentException.class;
-    private static final Class<IndexOutOfBoundsException> OUTSIDE = IndexOutOfBoundsException.class;
-    private static final Class<UnsupportedOperationException> FULL = UnsupportedOperationException.class;
-    private static final Class<NoSuchElementException> ANOTHER = NoSuchElementException.class;
-
+public final class PromiseTest extends Sheds {
     private final Due due = new Due();
 
     public static void main(String[] args) {
@@ -55,61 +46,6 @@ public final class PromiseTest {
     }
 
     // ---- helpers
-
-    private static MiddleScale of(int things) {
-        MiddleScale x = new MiddleScale();
-        x.things(things);
-        x.scale(0, 5, 0);
-        x.scale(1, 7, 0);
-        x.scale(2, 3, 0);
-        return x;
-    }
-
-    /** With notes: a scale, a set, what rose, and so on. */
-    private static MiddleScale noted(int things, int... notes) {
-        MiddleScale x = of(things);
-        for (int i = 0; i + 2 < notes.length; i += 3) {
-            x.note(notes[i], notes[i + 1], notes[i + 2]);
-        }
-        return x;
-    }
-
-    /** Puts a text on an empty tape. */
-    private static void tell(MiddleScale x, String text) {
-        x.end(0);
-        byte[] bytes = Arrays.copyOf(text.getBytes(StandardCharsets.ISO_8859_1), (text.length() + 19) / 20 * 20);
-        IntBuffer ints = ByteBuffer.wrap(bytes).asIntBuffer();
-        while (ints.remaining() > 0) {
-            x.feed(ints.get(), ints.get(), ints.get(), ints.get(), ints.get());
-        }
-        x.end(text.length());
-    }
-
-    private static int read(MiddleScale x, String text) {
-        tell(x, text);
-        return x.shed();
-    }
-
-    private static boolean fitsRow(MiddleScale x, String row) {
-        tell(x, row);
-        return x.fits();
-    }
-
-    private static int nearlyRow(MiddleScale x, String row) {
-        tell(x, row);
-        return x.nearly();
-    }
-
-    private static int treeOf(MiddleScale x, String way, int scale, boolean set) {
-        tell(x, way);
-        return x.tree(scale, set);
-    }
-
-    private static void weights(MiddleScale x, int... weights) {
-        for (int t = 0; t < weights.length; t++) {
-            x.weight(t, weights[t]);
-        }
-    }
 
     private void is(String call, Object got, Object want) {
         due.is(call, got, want);
@@ -329,16 +265,11 @@ public final class PromiseTest {
         is("a weight that is gone", x.weight(4, 0), 0);
         x.scale(2, 0, 0);
         x.note(0, 3, 0);
-        throwsIt("things(7) with notes", IllegalStateException.class, () -> call(() -> x.things(7)));
+        throwsIt("things(7) with notes", STATE, () -> call(() -> x.things(7)));
         throwsIt("things(8) with notes", ILLEGAL, () -> call(() -> x.things(8)));
         x.drop(0);
         x.things(3);
         is("things without notes again", x.count(0), 3);
-    }
-
-    private static Object call(Runnable r) {
-        r.run();
-        return "nothing";
     }
 
     private void scale() {
