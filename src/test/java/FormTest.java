@@ -6,6 +6,7 @@ import java.lang.reflect.Modifier;
 import java.nio.file.Files;
 import java.nio.file.Path;
 import java.util.Arrays;
+import java.util.List;
 import java.util.TreeSet;
 import java.util.regex.Matcher;
 import java.util.regex.Pattern;
@@ -81,6 +82,10 @@ public final class FormTest {
             fields(c);
         }
         methods(MiddleScale.class, new TreeSet<>());
+        for (Method m : MiddleScale.class.getDeclaredMethods()) {
+            boolean hidden = Modifier.isPrivate(m.getModifiers());
+            DUE.is("no name of the face: " + m, hidden && face.contains(m.getName()), false);
+        }
         fields(MiddleScale.class);
     }
 
@@ -108,17 +113,35 @@ public final class FormTest {
             }
         }
         String code = all.replaceAll("(?s)/\\*.*?\\*/", "").replaceAll("//[^\n]*", "").replaceAll("\"[^\"]*\"", "\"\"");
-        for (String never : new String[] {"\\bcatch\\b", "\\btry\\b", "\\bfinally\\b", "->", "::", "\\bsynchronized\\b",
-            "\\bassert\\b", "Exact\\b", "\\bpackage\\b", "\\bdouble\\b", "\\bfloat\\b", "System\\.(?!arraycopy)",
-            "\\bgetMessage\\b", "\\bvar\\b", "\"\" *\\+", "\\+ *\"\"", "Integer\\.(?!bitCount)", "Long\\.(?!bitCount)",
-            "Math\\.(?!max|min)", "Arrays\\.(?!fill)"}) {
+        for (String never : new String[] {"\\bfinally\\b", "->", "::", "\\bsynchronized\\b", "\\bassert\\b", "Exact\\b",
+            "\\bpackage\\b", "System\\.(?!arraycopy)", "\\bgetMessage\\b", "\"\" *\\+", "\\+ *\"\"",
+            "catch *\\([^)]*\\b(ArrayIndexOutOfBounds|NullPointer|ClassCast|NegativeArraySize|ArrayStore|Runtime)?Exception\\b",
+            "catch *\\([^)]*\\b(Throwable|Error)\\b", "Arrays\\.(?!fill|copyOf)", "static *\\{"}) {
             DUE.is("never " + never, Pattern.compile(never).matcher(code).find(), false);
         }
-        Matcher imports = Pattern.compile("import ([\\w.]+);").matcher(code);
-        while (imports.find()) {
-            boolean fine = imports.group(1).equals("java.util.Arrays")
-                || imports.group(1).equals("java.util.NoSuchElementException");
-            DUE.is("import " + imports.group(1), fine, true);
+        for (String thrown : all(code, "throw new (\\w+)")) {
+            DUE.is("throws " + thrown, thrown.matches("(IllegalState|IllegalArgument|IndexOutOfBounds|Arithmetic|"
+                + "UnsupportedOperation|NoSuchElement|Runtime)Exception"), true);
         }
+        methodsAreShort(code);
+        for (String imported : all(code, "import ([\\w.]+);")) {
+            boolean fine = imported.matches("java\\.util\\.(Arrays|ArrayList|List|Iterator|NoSuchElementException)");
+            DUE.is("import " + imported, fine, true);
+        }
+    }
+
+    private static List<String> all(String code, String pattern) {
+        return Pattern.compile(pattern).matcher(code).results().map(r -> r.group(1)).toList();
+    }
+
+    /** From a method's head up to the brace that stands below its begin. */
+    private static void methodsAreShort(String code) {
+        Matcher m = Pattern.compile("(?ms)^( +)(?! )(?:[\\w<>\\[\\],]+ )*(\\w+)\\([^;{]*\\{$.*?^\\1\\}").matcher(code);
+        int found = 0;
+        while (m.find()) {
+            found++;
+            DUE.is("sixty lines at most: " + m.group(2), m.group().lines().count() <= 60, true);
+        }
+        DUE.is("methods were found", found > 49, true);
     }
 }

@@ -23,6 +23,7 @@ final class LayingBoundaries extends Boundaries {
         boundOnNoScale();
         byNextStops();
         byNextOnNoScale();
+        askedAgain();
         meanOfRows();
         meanOnNoScale();
         cheapestOfScales();
@@ -191,13 +192,15 @@ final class LayingBoundaries extends Boundaries {
         is("4000 steps and not learnt", noted(6, 2, 33, 5, 0, 14, 1, 1, 54, 1, 2, 48, 5).fewest(1), -1);
         is("4001 steps", noted(6, 2, 5, 2, 1, 30, 4, 0, 41, 3, 2, 12, 2, 0, 50, 5).fewest(1), -2);
         is("many more steps", of(7).fewest(0), -2);
-        MiddleScale x = of(7);
-        x.fewest(0);
-        is("each call has steps of its own", x.fewest(0), -2);
-        MiddleScale y = noted(6, 0, 11, 0, 1, 45, 5, 2, 6, 1);
-        y.fewest(0);
-        y.weight(0, 1);
-        is("asked again", y.fewest(0), 4);
+        MiddleScale x = noted(6, 0, 11, 0, 1, 45, 5, 2, 6, 1);
+        is("4000 steps", x.fewest(0), 4);
+        x.note(2, 6, 1);
+        is("each call has 4000 of its own", x.fewest(0), 4);
+        x.grown(0);
+        is("many more steps", x.fewest(0), -2);
+        x.grown(1);
+        x.things(3);
+        is("one step", x.fewest(0), 1);
     }
 
     private void fewestOnNoScale() {
@@ -276,12 +279,48 @@ final class LayingBoundaries extends Boundaries {
         is("four by pairs", of(4).byNext(2), 5);
         is("more than the fewest", noted(6, 1, 53, 5, 1, 27, 3).byNext(0) > noted(6, 1, 53, 5, 1, 27, 3).fewest(0), true);
         is("as if it did not lie", liar(2).byNext(0), 3);
+        // The last set, 1, 2 and 3, parts nothing, but others do.
+        is("the last set parts nothing", noted(4, 0, 14, 1).laying(0, 14, false), 8);
+        is("others do", noted(4, 0, 14, 1).byNext(0), 2);
+        is("the last four of five part nothing", noted(5, 1, 30, 3).byNext(1) > 0, true);
     }
 
     private void byNextOnNoScale() {
         says(33, "IndexOutOfBoundsException: there is no such THING, SCALE, NOTE.");
         refusesAll("byNext of", OUTSIDE, beside(2), () -> of(4), (x, s) -> x.byNext(s));
         refuses("byNext(3) without rows", OUTSIDE, () -> noRows(4), x -> x.byNext(3));
+    }
+
+    /** On one object, each behind all others and behind other rows: nothing may stay that was found once. */
+    private void askedAgain() {
+        says(33, "BY NEXT: NEXT is laid again and again");
+        int[][] sheds = {{0, 7, 1}, {2, 3, 1}, {0, 7, 1, 2, 9, 3}, {}, {2, 3, 1, 2, 3, 0}, {2, 3, 1, 2, 6, 2}};
+        MiddleScale x = of(4);
+        for (int[] notes : sheds) {
+            while (x.count(2) > 0) {
+                x.drop(0);
+            }
+            for (int i = 0; i < notes.length; i += 3) {
+                x.note(notes[i], notes[i + 1], notes[i + 2]);
+            }
+            askedTwice(x, notes);
+        }
+    }
+
+    private void askedTwice(MiddleScale x, int[] notes) {
+        for (int turn = 0; turn < 2; turn++) {
+            for (int s = 0; s < 3; s++) {
+                is("fewest", x.fewest(s), noted(4, notes).fewest(s));
+                is("byNext", x.byNext(s), noted(4, notes).byNext(s));
+                is("mean", x.mean(s), noted(4, notes).mean(s));
+                for (int t = 0; t < 4; t++) {
+                    is("where", x.where(t, s), noted(4, notes).where(t, s));
+                }
+                is("next", x.next(s), noted(4, notes).next(s));
+            }
+            is("cheapest", x.cheapest(false), noted(4, notes).cheapest(false));
+            is("coin", x.cheapest(true), noted(4, notes).cheapest(true));
+        }
     }
 
     private void meanOfRows() {
@@ -410,7 +449,10 @@ final class LayingBoundaries extends Boundaries {
         refusesAll("where of", OUTSIDE, beside(3), () -> of(4), (x, t) -> x.where(t, 0));
         refusesAll("where by", OUTSIDE, beside(2), () -> of(4), (x, s) -> x.where(0, s));
         refuses("where(4, 0) without rows", OUTSIDE, () -> noRows(4), x -> x.where(4, 0));
-        is("a thing that is no scale", of(4).where(3, 0) > 0, true);
+        is("the last thing by the first scale", of(4).where(3, 0) > 0, true);
+        for (int s = 0; s < 3; s++) {
+            is("the last of seven, scale " + s, oneRow(7).where(6, s), 0);
+        }
     }
 
     // ---- promise 44

@@ -11,6 +11,9 @@ public final class ModelTest {
     private static final String[] BYTES = {"things", "scale", "three", "four", "two", "weight", "note", "rose", ";", " ",
         "0", "1", "2", "3", "4", "5", "6", "7", "12", "99", "100", "999", "1000", "0001", "x", "A", "-1", "\t", "thing"};
 
+    /** What later calls answer is free. */
+    private static final int MOST_CALLS = 512;
+
     private final Random random;
     private final Due due;
     private final List<Method> face = new ArrayList<>();
@@ -223,6 +226,9 @@ public final class ModelTest {
     }
 
     private void call(String name, Object... args) {
+        if (done.size() >= MOST_CALLS) {
+            return;
+        }
         String got = answer(real, name, args);
         String want = answer(model, name, args);
         String told = name + Arrays.toString(args);

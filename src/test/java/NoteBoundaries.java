@@ -99,9 +99,18 @@ final class NoteBoundaries extends Boundaries {
 
     private void leastProof() {
         says(24, "the least set of NOTES");
+        MiddleScale x = noted(4, 2, 3, 1, 2, 6, 2);
+        is("none yet", x.proof(), 0);
+        x.note(2, 5, 0);
+        is("then three", x.proof(), 7);
+        x.note(2, 6, 1);
+        is("then two of four", x.proof(), 0b1010);
+        x.drop(1);
+        is("none of those left", x.proof(), 0);
         is("a pair behind a ring of three", noted(4, 2, 3, 1, 2, 6, 2, 2, 5, 0, 2, 12, 2, 2, 12, 3).proof(), 0b11000);
         is("a ring of three behind one of four",
             noted(7, 2, 3, 1, 2, 6, 2, 2, 12, 3, 2, 9, 0, 2, 48, 5, 2, 96, 6, 2, 80, 4).proof(), 0b1110000);
+        is("without one alike in a ring", noted(4, 2, 3, 1, 2, 3, 1, 2, 6, 2, 2, 5, 0).proof(), 0b1101);
         is("without those that tell nothing more", noted(4, 2, 3, 1, 2, 3, 1, 2, 12, 3, 2, 3, 0).proof(), 0b1001);
     }
 

@@ -3,8 +3,8 @@ import java.lang.management.ManagementFactory;
 
 /** What 512 calls on one object make stays far within the room that a run has. */
 public final class RoomTest {
-    /** The room is 7.3 million fields and elements; a megabyte and a half is a small part of it. */
-    private static final long MOST_BYTES = 1_500_000;
+    /** The room has 600,000 objects, each of 16 bytes at least, and 7.3 million fields and elements: both are more. */
+    private static final long MOST_BYTES = 9_600_000;
 
     public static void main(String[] args) {
         Due due = new Due();

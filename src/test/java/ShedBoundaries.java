@@ -389,6 +389,8 @@ final class ShedBoundaries extends Boundaries {
         MiddleScale x = lying(3, 2, 1, 3, 1, 6, 1);
         is("four rows", x.rows(), 4);
         is("two of them are mirrors", x.count(5), 2);
+        is("so of five things: 80 rows", lying(5, 2, 1, 3, 1, 6, 1).rows(), 80);
+        is("half of them are mirrors", lying(5, 2, 1, 3, 1, 6, 1).count(5), 40);
     }
 
     private void countOfFalse() {

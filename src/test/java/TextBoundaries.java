@@ -1,3 +1,6 @@
+import java.util.regex.Matcher;
+import java.util.regex.Pattern;
+
 /** Boundaries of texts and of their faults: promises 4 and 5. */
 final class TextBoundaries extends Boundaries {
     TextBoundaries(Due due, Book book) {
@@ -97,6 +100,8 @@ final class TextBoundaries extends Boundaries {
         is("a scale of the same text", rightText(new MiddleScale(), "scale two 1 0;note 0 0 1 rose 1").rows(), 3);
         wrongText(new MiddleScale(), "scale two 1 0;note 1 0 1 rose 1", 19);
         is("the last scale", right("note 2 0 1 rose 1").look(0, 0), 2);
+        is("a scale of kind 0", rightText(new MiddleScale(), "scale three 1 0;note 0 0 1 2 rose 1").rows(), 2);
+        is("a scale of kind 1", rightText(new MiddleScale(), "things 4;scale four 1 0;note 0 0 1 2 3 rose 1").rows(), 6);
         wrong("note 3 0 1 rose 1", 5);
         is("the last thing", right("weight 3 8").weight(3, 0), 8);
         wrong("weight 4 8", 7);
@@ -419,6 +424,22 @@ final class TextBoundaries extends Boundaries {
         wrong("scale pip 100 9", 6);
         wrong("scale two 100 9", 10);
         wrong("pip;;", 0);
+        for (String line : new String[] {"things 9", "things 0005", "scale two 100 0", "scale two 1 9", "weight 9 1",
+            "weight 0 1000", "note 9 0 1 rose 0", "note 2 9 1 rose 1", "note 2 1 1 rose 1", "note 2 0 1 rose 2",
+            "note 2 0 1 rose 9"}) {
+            int at = "note 2 1 1 rose 1".equals(line) ? 9 : firstWrong(line);
+            wrong(line + ";pip", at);
+            wrong(line + ";" + line, at);
+            wrong(line + " pip", at);
+        }
+        wrong("scale pip;pip", 6);
+        wrong("note 2 0 1 pip;pip", 11);
+    }
+
+    /** Where the only number stands that is 2 behind rose, 9, 100 or of four digits. */
+    private static int firstWrong(String line) {
+        Matcher m = Pattern.compile("(?<=rose )2|\\b9\\b|\\b100\\b|\\d{4}").matcher(line);
+        return m.find() ? m.start() : -1;
     }
 
     private void nothingStays() {

@@ -107,6 +107,12 @@ final class WeightBoundaries extends Boundaries {
         says(36, "how many LAYINGS (place NONE)");
         is("of three", of(3).sorted(-1), 1);
         is("of four", of(4).sorted(-1), 2);
+        MiddleScale x = weighing(10, 20, 30, 15);
+        is("asked", x.sorted(-1), 3);
+        is("asked again", x.sorted(-1), 3);
+        x.weight(3, 5);
+        is("of other weights", x.sorted(-1), 2);
+        is("their row", x.sorted(0), 3);
     }
 
     // ---- promise 38
