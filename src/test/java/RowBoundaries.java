@@ -554,6 +554,18 @@ final class RowBoundaries extends Boundaries {
         x.note(3, 7, 0);
         is("a note on another scale of kind 0, though it lies", x.sures(true), 0);
         is("it is still sure", x.sures(false), 1);
+        x.drop(2);
+        is("that note, the last one, put away", x.sures(true), 1);
+        is("16 notes on other kinds", fullOfNotes(4).sures(true), 0);
+        is("the last of 16 notes tells it", lastOfSixteen().sures(true), 0);
+        is("it is sure by it", lastOfSixteen().sures(false), 1);
+    }
+
+    private static MiddleScale lastOfSixteen() {
+        MiddleScale x = fullOfNotes(4);
+        x.drop(0);
+        x.note(0, 7, 1);
+        return x;
     }
 
     private void pairsInOrder() {
