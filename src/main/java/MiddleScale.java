@@ -1205,7 +1205,8 @@ public final class MiddleScale {
                 }
             }
             for (int kind = 0; kind < KINDS; kind++) {
-                byKind[kind].fill(this);
+                byKind[kind].fillSets();
+                byKind[kind].fillRisings(this);
             }
         }
 
@@ -1387,20 +1388,7 @@ public final class MiddleScale {
             never = new long[words];
         }
 
-        void fill(AllRows all) {
-            fillSets();
-            int k = 0;
-            for (int s = 0; s < sets.length; s++) {
-                for (int t = 0; t < things && k < risings.length; t++) {
-                    if (holds(sets[s], t)) {
-                        fillRising(all, sets[s], t, risings[k]);
-                        k++;
-                    }
-                }
-            }
-        }
-
-        private void fillSets() {
+        void fillSets() {
             Arrays.fill(numbers, NONE);
             int number = 0;
             // Thing 0 as the highest bit: then falling codes are sets in order.
@@ -1417,9 +1405,21 @@ public final class MiddleScale {
         private int turned(int code) {
             int set = 0;
             for (int t = 0; t < things; t++) {
-                set |= holds(code, t) ? 1 << things - 1 - t : 0;
+                set |= (code >> t & 1) << things - 1 - t;
             }
             return set;
+        }
+
+        void fillRisings(AllRows all) {
+            int k = 0;
+            for (int s = 0; s < sets.length; s++) {
+                for (int t = 0; t < things && k < risings.length; t++) {
+                    if (holds(sets[s], t)) {
+                        fillRising(all, sets[s], t, risings[k]);
+                        k++;
+                    }
+                }
+            }
         }
 
         private void fillRising(AllRows all, int set, int thing, long[] bits) {
